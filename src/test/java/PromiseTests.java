@@ -717,6 +717,12 @@ public final class PromiseTests {
         Due.is("mend, a none, questions", x.mend(1), 1);
         Due.refusal(x, "mend(2)", () -> x.mend(2), -2);
         Due.refusal(x, "mend(-1)", () -> x.mend(-1), -2);
+        VolumeInFivePasses first = quiet("i1f00;i9f00;");
+        Due.is("mend, inode 1", first.mend(0), 1);
+        VolumeInFivePasses last = quiet("p9000;");
+        Due.is("mend, inode 9", last.mend(0), 9);
+        VolumeInFivePasses root = quiet("p0100;p0200;e04a1;e05b1;");
+        Due.is("mend, never inode 0", root.mend(0), -9);
         VolumeInFivePasses y = new VolumeInFivePasses();
         Due.is("mend, none is fewer", y.mend(0), -9);
         Due.is("mend, none is fewer, questions", y.mend(1), -9);
@@ -737,6 +743,8 @@ public final class PromiseTests {
         VolumeInFivePasses y = new VolumeInFivePasses();
         Due.is("shared, none", y.shared(0), 0);
         Due.is("free, the first", y.shared(1), 0);
+        y.points(3, 1, 0);
+        Due.is("shared, one pointer is none", y.shared(0), 0);
         for (int b = 0; b < 24; b++) {
             y.points(b / 3, b % 3, b);
         }
@@ -791,7 +799,11 @@ public final class PromiseTests {
         fraction("mean, in least terms", x.mean(0), x.mean(1), 3, 2);
         VolumeInFivePasses y = new VolumeInFivePasses();
         fraction("mean, no pointers", y.mean(0), y.mean(1), 0, 1);
-        tell(y, "p0100;i0n00;");
+        tell(y, "p0100;i1f00;");
+        fraction("mean, a half", y.mean(0), y.mean(1), 1, 2);
+        tell(y, "i1n00;p0223;p1223;");
+        fraction("mean, by one", y.mean(0), y.mean(1), 3, 1);
+        tell(y, "i0n00;");
         fraction("mean, no inodes", y.mean(0), y.mean(1), 0, 1);
         Due.longRefusal(x, "mean(2)", () -> x.mean(2), -2);
         Due.longRefusal(x, "mean(-1)", () -> x.mean(-1), -2);
@@ -985,6 +997,8 @@ public final class PromiseTests {
         for (int what = 0; what < due.length; what++) {
             Due.is("count(" + what + ")", x.count(what), due[what]);
         }
+        x.kind(0, 4);
+        Due.is("directories without inode 0", x.count(1), 8 | 512);
         x.on();
         x.row(-1);
         x.row(-2);
