@@ -16,6 +16,7 @@ public final class VolumeInFivePasses {
     /** Above every reason at every place: 1 + 30 + 60 + 9 + 9 + 10 + 20 + 24 + 10. */
     private static final int MOST_QUESTIONS = 180;
     private static final int NOTHING = -9;
+    private static final int WITHOUT_SIGN = 0x7fffffff;
 
     private static final int NONE = 0;
     private static final int DIR = 2;
@@ -681,7 +682,7 @@ public final class VolumeInFivePasses {
 
     private int draw(int below) {
         seed = seed * 1664525 + 1013904223;
-        return below < 1 ? 0 : (seed & Integer.MAX_VALUE) / 256 % below;
+        return below < 1 ? 0 : (seed & WITHOUT_SIGN) / 256 % below;
     }
 
     /** The letters that have come, and what they say. */

@@ -47,6 +47,8 @@ public final class MindEdgeTests {
         lotsOfNumbersAbove();
         lotsOfSeeds();
         lotsChangeNothing();
+        refusedInMind();
+        refusedInRows();
         imageOfAll();
         imageAgain();
         bitsOfCount();
@@ -760,6 +762,62 @@ public final class MindEdgeTests {
         VolumeInFivePasses y = new VolumeInFivePasses();
         y.refuses(16);
         Due.is("without 16", y.lots(1, 0, 0), 4);
+    }
+
+    /** Inode 0 is full; file 1 will be lost, to whose block log 5 is, too. */
+    private static VolumeInFivePasses lostAndLog() {
+        return Told.made("k11;p1005;k23;k33;k43;k54;p5005;e00a2;e01b3;e02c4;e03d5;");
+    }
+
+    /** "A REASON that is REFUSED (..) is asked no QUESTION, nothing is mended for it": in mind likewise. */
+    private static void refusedInMind() {
+        VolumeInFivePasses x = lostAndLog();
+        int[] numbers = {0, 2, 3, 4, 5, -9};
+        Due.is("none refused: reasons", x.reasons(), 1 << 4 | 1 << 13 | 1 << 14 | 1 << 16);
+        Due.is("none refused: a block is lost", x.loses(1), 1);
+        Due.is("none refused: the pointer", x.pointerThen(5, 0), -9);
+        Due.is("none refused: blocks of the log", x.then(5, 5), 0);
+        for (int i = 0; i < numbers.length; i++) {
+            Due.is("none refused: by numbers, " + i, x.largest(i), numbers[i]);
+        }
+        x.refuses(4);
+        int[] most = {0, 5, 2, 3, 4, -9};
+        Due.is("4 refused: reasons", x.reasons(), 1 << 13 | 1 << 14 | 1 << 15 | 1 << 16);
+        Due.is("4 refused: no block is lost", x.loses(1), 0);
+        Due.is("4 refused: the pointer", x.pointerThen(5, 0), 5);
+        Due.is("4 refused: blocks of the log", x.then(5, 5), 1);
+        for (int i = 0; i < most.length; i++) {
+            Due.is("4 refused: most first, " + i, x.largest(i), most[i]);
+        }
+        x.refuses(14);
+        Due.is("14 refused: reasons", x.reasons(), 1 << 13 | 1 << 15 | 1 << 16);
+        Due.is("14 refused: links", x.then(5, 1), 0);
+        x.refuses(14);
+        Due.is("14 refused no more: links", x.then(5, 1), 1);
+        VolumeInFivePasses parent = Told.made("r12;i1d07;e00a1;");
+        Due.is("12 refused: parent", parent.then(1, 2), 7);
+        parent.refuses(12);
+        Due.is("12 refused no more: parent", parent.then(1, 2), 0);
+    }
+
+    /** Promise 32: "REASONS of the QUESTIONS of a CHECK", of which those refused are none. */
+    private static void refusedInRows() {
+        VolumeInFivePasses x = lostAndLog();
+        int holding = 1 << 1 | 1 << 2 | 1 << 4 | 1 << 5;
+        x.row(4);
+        x.row(13);
+        Due.is("none refused: kinds", x.whatIs(5, 0), holding);
+        Due.is("none refused: numbers", x.whatIs(5, 1), 1023);
+        x.refuses(4);
+        Due.is("4 refused: kinds", x.whatIs(5, 0), 0);
+        Due.is("4 refused: numbers", x.whatIs(5, 1), 0);
+        x.clear();
+        x.row(13);
+        x.row(14);
+        Due.is("4 refused, not told: kinds", x.whatIs(5, 0), holding);
+        Due.is("4 refused, not told: numbers", x.whatIs(5, 1), 1023);
+        x.refuses(14);
+        Due.is("14 refused: numbers", x.whatIs(5, 1), 0);
     }
 
     /** Promises 37 and 38: "all that there is, but it, the ROW, letters, REFUSALS" */

@@ -111,6 +111,11 @@ public final class RulesTests {
         while (imports.find()) {
             Due.is("import", imports.group(1), "java.util.Arrays");
         }
+        Matcher library = Pattern.compile("(?<!\\w)(?:Integer|Long|Math|Arrays|System|String|StringBuilder)\\.\\w+").matcher(code);
+        while (library.find()) {
+            boolean isCall = library.end() < code.length() && code.charAt(library.end()) == '(';
+            Due.is("a function is " + library.group(), isCall ? 1 : 0, 1);
+        }
         for (int i = 0; i < source.length(); i++) {
             char c = source.charAt(i);
             if (c != '\n' && (c < 32 || c > 126)) {
@@ -136,6 +141,7 @@ public final class RulesTests {
             Due.is("two methods are named " + name, bodies.put(name, body) == null ? 0 : 1, 0);
             Due.is("lines of " + name, body.lines().count() <= 60 ? 1 : 0, 1);
             Due.is("parameters of " + name, m.group(2).split(",").length <= 7 ? 1 : 0, 1);
+            Due.is("objects made in " + name, body.matches("(?s).*\\b(new|clone|copyOf|copyOfRange)\\b.*") ? 1 : 0, 0);
         }
         Due.is("methods found", bodies.size() > 60 ? 1 : 0, 1);
         for (String name : bodies.keySet()) {
